@@ -233,7 +233,7 @@ public final class ResponseDesk {
         }
     }
 
-    /** Steps to the next order of the dictionary; the last one stays. */
+    // A search steps once more after its last order, so that one must stay as it is.
     private void nextTrial() {
         int i = count - 2;
         while (i >= 0 && trial[i] > trial[i + 1]) {
@@ -288,7 +288,7 @@ public final class ResponseDesk {
         return late ? LATE : firstDone[k];
     }
 
-    /** Runs the first units of THE START with this row as the order, and answers how many go to no task. */
+    // One run serves both questions: it notes when the first jobs are done, and answers the idle units.
     private int runStart(int[] row, int units) {
         clearRun();
         int unused = 0;
