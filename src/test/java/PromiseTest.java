@@ -1,4 +1,4 @@
-/** For each promise: ordinary inputs, the edges that the document names, and wrong inputs; answers worked out by hand. */
+/** For each promise: ordinary inputs, the document's edges, and wrong inputs; answers worked out by hand. */
 public final class PromiseTest {
     private static final int MIN = Integer.MIN_VALUE;
     private static final int MAX = Integer.MAX_VALUE;
