@@ -32,6 +32,10 @@ public final class LanguageTest {
         "(?m)^    (?:public|private) (?:static )?[\\w\\[\\]]+ (\\w+)\\(([^)]*)\\) \\{");
     private static final Pattern ARRAY_FIELD = Pattern.compile(
         "(?m)^    private final \\w+\\[\\] \\w+ = new \\w+\\[\\w+\\];");
+    private static final Pattern LOOP = Pattern.compile("\\b(for|while|do)\\b ?[({]");
+    private static final Pattern FOR_HEAD = Pattern.compile(
+        "int (\\w+) = [^;]+; (\\w+) ([<>])=? [^;]+; (\\w+)(\\+\\+|--)");
+    private static final Pattern WHILE_HEAD = Pattern.compile("(\\w+) ([<>])=? [^|]+");
 
     private static final Map<String, String> bodies = new LinkedHashMap<>();
     private static int wrong = 0;
@@ -70,6 +74,7 @@ public final class LanguageTest {
         due("rule 4", "an array that no field's initialiser makes", count(NEW, code) == count(ARRAY_FIELD, code));
         due("rule 5", "a static initialiser", count(Pattern.compile("static\\s*\\{"), code) == 0);
         due("rule 6", "a lambda or method reference", !code.contains("->") && !code.contains("::"));
+        due("rule 7", "a divisor", code.indexOf('/') < 0 && code.indexOf('%') < 0);
     }
 
     private static void collectBodies(String code) {
@@ -115,6 +120,38 @@ public final class LanguageTest {
         return deepest;
     }
 
+    /** The loop's counter, or nothing when its head isn't a counter against a bound. */
+    private static String counterOf(String kind, String head, String body) {
+        Matcher counted = FOR_HEAD.matcher(head);
+        if (kind.equals("for") && !head.contains("||") && counted.matches()) {
+            boolean one = counted.group(1).equals(counted.group(2)) && counted.group(1).equals(counted.group(4));
+            boolean towards = counted.group(3).equals("<") == counted.group(5).equals("++");
+            return one && towards ? counted.group(1) : "";
+        }
+        Matcher bounded = WHILE_HEAD.matcher(head);
+        if (kind.equals("while") && bounded.matches()) {
+            String step = bounded.group(1) + (bounded.group(2).equals("<") ? "++;" : "--;");
+            // A step behind a condition or a continue could be missed, so it stands in the loop's own lines.
+            String own = body.replaceAll("(?s)\\{.*\\}", "");
+            return own.contains(step) && !body.contains("continue") ? bounded.group(1) : "";
+        }
+        return "";
+    }
+
+    private static void loops(String name, String body) {
+        Matcher loop = LOOP.matcher(body);
+        while (loop.find()) {
+            int headEnd = afterClosing(body, loop.end(), '(', ')');
+            String head = body.substring(loop.end(), headEnd - 1);
+            int bodyStart = body.indexOf('{', headEnd) + 1;
+            String inside = body.substring(bodyStart, afterClosing(body, bodyStart, '{', '}') - 1);
+            String counter = counterOf(loop.group(1), head, inside);
+            due("rule 8", "in " + name + " the end of the loop " + head, !counter.isEmpty());
+            Pattern set = Pattern.compile("\\b" + counter + " ?(?:[-+*/%&|^]|<<|>>>?)?=(?!=)");
+            due("rule 8", "in " + name + " the counter " + counter + " is set", counter.isEmpty() || count(set, inside) == 0);
+        }
+    }
+
     private static void members() {
         Set<String> open = new TreeSet<>();
         Set<String> hidden = new TreeSet<>();
@@ -143,6 +180,7 @@ public final class LanguageTest {
         collectBodies(code);
         for (Map.Entry<String, String> one : bodies.entrySet()) {
             arguments(one.getKey(), one.getValue());
+            loops(one.getKey(), one.getValue());
             due("rule 10", "calls from " + one.getKey() + " go over six deep or recur", depth(one.getKey(), 0) <= 6);
         }
         members();
