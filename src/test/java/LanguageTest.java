@@ -148,7 +148,8 @@ public final class LanguageTest {
             String counter = counterOf(loop.group(1), head, inside);
             due("rule 8", "in " + name + " the end of the loop " + head, !counter.isEmpty());
             Pattern set = Pattern.compile("\\b" + counter + " ?(?:[-+*/%&|^]|<<|>>>?)?=(?!=)");
-            due("rule 8", "in " + name + " the counter " + counter + " is set", counter.isEmpty() || count(set, inside) == 0);
+            boolean kept = counter.isEmpty() || count(set, inside) == 0;
+            due("rule 8", "in " + name + " the counter " + counter + " is set", kept);
         }
     }
 
